@@ -7,6 +7,7 @@ public final class BreakingTest {
         widthArguments();
         breakingArguments();
         breaks();
+        fewestOfEqual();
         CHECK.end();
     }
 
@@ -93,6 +94,18 @@ public final class BreakingTest {
         setter.read();
         breaksInto(setter, 9, 0, 1);
         breaksInto(setter, 8, TuneSetter.BAD, TuneSetter.BAD);
+    }
+
+    /** Bars of 40 10 16 34 9 14 34 11: five lines can have the same badness as four. */
+    private static void fewestOfEqual() {
+        String text = "^C^C^C^C^C^Czz|^C8|^C4^C4|zzzzzzzz|C8|C4C4|zzzzzzzz|[^C^E]8|";
+        TuneSetter setter = Check.typed(text);
+        CHECK.due("read()", setter.read(), 14);
+        int[] widths = {40, 10, 16, 34, 9, 14, 34, 11};
+        for (int bar = 0; bar < widths.length; bar++) {
+            CHECK.due("width(" + bar + ")", setter.width(bar), widths[bar]);
+        }
+        breaksInto(setter, 50, 729, 4);
     }
 
     private static void breaksInto(TuneSetter setter, int l, int badness, int lines) {
