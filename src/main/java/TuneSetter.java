@@ -154,7 +154,7 @@ public final class TuneSetter {
 
     /** A tune as it is written. */
     private static final class Tune {
-        // What a bar line does; a line can do more than one, and | does nothing.
+        // Bits, for :: both closes and opens; only a line that is PLAIN lets an ending hold on.
         static final int PLAIN = 0;
         static final int OPENS = 1;
         static final int CLOSES = 2;
@@ -181,6 +181,8 @@ public final class TuneSetter {
             itemCount = 0;
             noteCount = 0;
             line[0] = PLAIN;
+            firstItem[0] = 0;
+            firstNote[0] = 0;
         }
 
         void setLine(int kind) {
@@ -195,7 +197,6 @@ public final class TuneSetter {
             ending[barCount] = endingHolds ? ending[barCount - 1] : 0;
             barTicks[barCount] = 0;
             barWidth[barCount] = 2;
-            firstItem[barCount] = itemCount;
             barCount++;
             firstItem[barCount] = itemCount;
         }
@@ -211,8 +212,6 @@ public final class TuneSetter {
                 return;
             }
             tied[itemCount] = false;
-            itemTicks[itemCount] = 0;
-            firstNote[itemCount] = noteCount;
             itemCount++;
             firstNote[itemCount] = noteCount;
             firstItem[barCount] = itemCount;
@@ -1031,7 +1030,7 @@ public final class TuneSetter {
                 if (left < 0) {
                     return;
                 }
-                int badness = next == tune.barCount ? 0 : left * left + leastBadness[next];
+                int badness = leastBadness[next] + (next == tune.barCount ? 0 : left * left);
                 int lineCount = 1 + fewestLines[next];
                 boolean first = next == bar + 1;
                 if (first || badness < leastBadness[bar]

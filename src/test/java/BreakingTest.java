@@ -8,6 +8,7 @@ public final class BreakingTest {
         breakingArguments();
         breaks();
         fewestOfEqual();
+        moreLinesThanCouldBe();
         CHECK.end();
     }
 
@@ -99,13 +100,24 @@ public final class BreakingTest {
     /** Bars of 40 10 16 34 9 14 34 11: five lines can have the same badness as four. */
     private static void fewestOfEqual() {
         String text = "^C^C^C^C^C^Czz|^C8|^C4^C4|zzzzzzzz|C8|C4C4|zzzzzzzz|[^C^E]8|";
-        TuneSetter setter = Check.typed(text);
-        CHECK.due("read()", setter.read(), 14);
         int[] widths = {40, 10, 16, 34, 9, 14, 34, 11};
+        breaksInto(withWidths(text, widths), 50, 729, 4);
+    }
+
+    /** Four lines would do, but with more badness than five. */
+    private static void moreLinesThanCouldBe() {
+        String text = "^C^C^C^C^Czzz|[^C^D^E^F]8|^C4^C4|zzzzzzzz|C8|C4C4|zzzzzzzz|^C4^C4|";
+        int[] widths = {39, 13, 16, 34, 9, 14, 34, 16};
+        breaksInto(withWidths(text, widths), 52, 795, 5);
+    }
+
+    private static TuneSetter withWidths(String text, int[] widths) {
+        TuneSetter setter = Check.typed(text);
+        setter.read();
         for (int bar = 0; bar < widths.length; bar++) {
             CHECK.due("width(" + bar + ")", setter.width(bar), widths[bar]);
         }
-        breaksInto(setter, 50, 729, 4);
+        return setter;
     }
 
     private static void breaksInto(TuneSetter setter, int l, int badness, int lines) {

@@ -21,6 +21,7 @@ public final class ReadingTest {
         tooMany();
         tooLong();
         readingAgain();
+        nothingIsLeftOver();
         CHECK.end();
     }
 
@@ -185,6 +186,9 @@ public final class ReadingTest {
         longest.clear();
         Check.typeInto(longest, "C999/31|");
         CHECK.refusesWith(longest, "C999/31|", LENGTH, 7);
+        longest.clear();
+        Check.typeInto(longest, "C769/24|");
+        CHECK.refusesWith(longest, "C769/24|, 1538 ticks", LENGTH, 7);
         TuneSetter sixteenth = Check.typed("C64|");
         sixteenth.metre(12, 2);
         sixteenth.unit(16);
@@ -352,17 +356,36 @@ public final class ReadingTest {
         CHECK.due("width(0) of none", setter.width(0), TuneSetter.BAD);
         CHECK.due("breaking(99) of none", setter.breaking(99), TuneSetter.BAD);
         CHECK.due("lines(99) of none", setter.lines(99), TuneSetter.BAD);
+    }
+
+    /** What an earlier text had, to its end or to where it was wrong, does not show in a later one. */
+    private static void nothingIsLeftOver() {
+        leavesNothing("^F(3C", "FFF|", "0+48:65 48+48:65 96+48:65");
+        leavesNothing("^^", "F|", "0+48:65");
+        leavesNothing("[1^F", "F8:|", "0+384:65 384+384:65");
+        leavesNothing("[CDEF", "C|", "0+48:60");
+        leavesNothing("[CDEF", "[CDEF]|", "0+48:60 0+48:62 0+48:64 0+48:65");
+        leavesNothing("C12/7", "C|", "0+48:60");
+        leavesNothing("C4-D4-|", "C4C4|", "0+192:60 192+192:60");
+        leavesNothing("C8:|C8:|", "C8|D8|", "0+384:60 384+384:62");
+        leavesNothing("|:C8|:C8|:", "C8|D8:|", "0+384:60 384+384:62 768+384:60 1152+384:62");
+        leavesNothing("C8::C8::", "C8|D8:|", "0+384:60 384+384:62 768+384:60 1152+384:62");
+        leavesNothing("C8||C8||", "[1C8|D8:|E8|", "0+384:60 384+384:62 768+384:64");
+        leavesNothing("|:" + "[CDEF]".repeat(8) + ":|C|", "C|", "0+48:60");
+        leavesNothing("C8-|", "C|", "0+48:60");
+        TuneSetter often = Check.typed("C8:|[CEGB]8|");
+        for (int i = 0; i < 400; i++) {
+            CHECK.due("read() for the " + i + "th time", often.read(), 6);
+        }
+        CHECK.pitches(often, "C8:|[CEGB]8|", "60 60 60 64 67 71");
+    }
+
+    private static void leavesNothing(String first, String second, String want) {
+        TuneSetter setter = Check.typed(first);
+        setter.read();
         setter.clear();
-        Check.typeInto(setter, "^F(3C");
-        CHECK.refusesWith(setter, "^F(3C", SYNTAX, 5);
-        setter.clear();
-        Check.typeInto(setter, "FFF|");
-        CHECK.plays(CHECK.readsWith(setter, "FFF|", 3), "FFF|", "0+48:65 48+48:65 96+48:65");
-        setter.clear();
-        Check.typeInto(setter, "[1^F");
-        CHECK.refusesWith(setter, "[1^F", SYNTAX, 4);
-        setter.clear();
-        Check.typeInto(setter, "F8:|");
-        CHECK.pitches(CHECK.readsWith(setter, "F8:|", 2), "F8:|", "65 65");
+        Check.typeInto(setter, second);
+        setter.read();
+        CHECK.plays(setter, second + " behind " + first, want);
     }
 }
