@@ -3,6 +3,7 @@ final class Check {
     private final String name;
     private int asked;
     private int wrong;
+    private String sentence = "";
 
     Check(String name) {
         this.name = name;
@@ -14,6 +15,15 @@ final class Check {
         return setter;
     }
 
+    /** In another metre, and with another unit than at first. */
+    static TuneSetter typedIn(int n, int d, int unit, String text) {
+        TuneSetter setter = typed(text);
+        if (!setter.metre(n, d) || !setter.unit(unit)) {
+            throw new IllegalArgumentException("can't be set: " + n + "/" + d + ", unit " + unit);
+        }
+        return setter;
+    }
+
     static void typeInto(TuneSetter setter, String text) {
         for (int i = 0; i < text.length(); i++) {
             if (!setter.type(text.charAt(i))) {
@@ -22,11 +32,15 @@ final class Check {
         }
     }
 
+    /** The answers asked from here on are due by these words of the document. */
+    void sentence(String words) {
+        sentence = words;
+    }
+
     void due(String what, long got, long want) {
         asked++;
         if (got != want) {
-            wrong++;
-            System.out.println(name + ": " + what + " answered " + got + ", due is " + want);
+            tellWrong(what, Long.toString(got), Long.toString(want));
         }
     }
 
@@ -37,9 +51,14 @@ final class Check {
     void due(String what, String got, String want) {
         asked++;
         if (!got.equals(want)) {
-            wrong++;
-            System.out.println(name + ": " + what + " answered " + got + ", due is " + want);
+            tellWrong(what, got, want);
         }
+    }
+
+    private void tellWrong(String what, String got, String want) {
+        wrong++;
+        System.out.println(name + ": " + what + " answered " + got + ", due is " + want
+            + (sentence.isEmpty() ? "" : ", for: " + sentence));
     }
 
     /** The text is read by an object that stands at its first settings. */
@@ -65,14 +84,44 @@ final class Check {
         due("notes() behind \"" + text + "\"", setter.notes(), 0);
     }
 
+    /** The place counts only where the answer says that something is wrong. */
+    void answers(TuneSetter setter, String text, int answer, int place) {
+        if (answer < 0) {
+            refusesWith(setter, text, answer, place);
+        } else {
+            readsWith(setter, text, answer);
+        }
+    }
+
     /** All notes as "onset+duration:pitch". */
-    void plays(TuneSetter setter, String what, String want) {
+    static String notesOf(TuneSetter setter) {
         StringBuilder got = new StringBuilder();
         for (int i = 0; i < setter.notes(); i++) {
             got.append(i == 0 ? "" : " ").append(setter.note(i, 0)).append('+')
                 .append(setter.note(i, 1)).append(':').append(setter.note(i, 2));
         }
-        due("the notes of \"" + what + "\"", got.toString(), want);
+        return got.toString();
+    }
+
+    void plays(TuneSetter setter, String what, String want) {
+        due("the notes of \"" + what + "\"", notesOf(setter), want);
+    }
+
+    void plays(String text, String want) {
+        TuneSetter setter = typed(text);
+        setter.read();
+        plays(setter, text, want);
+    }
+
+    /** All bytes that were made last. */
+    static String bytesOf(TuneSetter setter) {
+        StringBuilder got = new StringBuilder();
+        int next = setter.byteAt(0);
+        for (int i = 1; next != TuneSetter.BAD; i++) {
+            got.append(i == 1 ? "" : " ").append(next);
+            next = setter.byteAt(i);
+        }
+        return got.toString();
     }
 
     /** The pitches of all notes. */

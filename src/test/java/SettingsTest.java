@@ -1,19 +1,24 @@
 /** Promises 1 to 6: a new object, metre, unit, key, type and clear. */
 public final class SettingsTest {
     private static final Check CHECK = new Check("SettingsTest");
+    private static final int[] EXTREMES = {Integer.MIN_VALUE, Integer.MIN_VALUE + 4, Integer.MAX_VALUE - 3,
+        Integer.MAX_VALUE};
 
     public static void main(String[] args) {
         newObject();
         metre();
+        fullBars();
         unit();
         key();
         laterChangesLeaveTheTune();
-        type();
+        codes();
+        mostCharacters();
         clear();
         CHECK.end();
     }
 
     private static void newObject() {
+        CHECK.sentence("TuneSetter(): No text, no tune.");
         TuneSetter setter = new TuneSetter();
         CHECK.due("new: place()", setter.place(), TuneSetter.BAD);
         CHECK.due("new: bars()", setter.bars(), 0);
@@ -25,22 +30,20 @@ public final class SettingsTest {
         CHECK.due("new: breaking(100)", setter.breaking(100), TuneSetter.BAD);
         CHECK.due("new: lines(100)", setter.lines(100), TuneSetter.BAD);
         CHECK.due("new: clear()", setter.clear(), 0);
+        CHECK.refusesWith(setter, "", TuneSetter.SYNTAX, 0);
     }
 
     private static void metre() {
-        int[] badTops = {0, -1, 13, Integer.MIN_VALUE, Integer.MAX_VALUE};
-        for (int n : badTops) {
-            CHECK.due("metre(" + n + ", 4)", new TuneSetter().metre(n, 4), false);
-        }
-        int[] badBottoms = {0, 1, 3, 5, 6, 7, 9, 16, -4, Integer.MIN_VALUE, Integer.MAX_VALUE};
-        for (int d : badBottoms) {
-            CHECK.due("metre(4, " + d + ")", new TuneSetter().metre(4, d), false);
-        }
-        int[] bottoms = {2, 4, 8};
-        for (int d : bottoms) {
-            for (int n = 1; n <= 12; n++) {
-                fullBarIs(n, d);
+        CHECK.sentence("metre: False, changing nothing, when n is not 1 .. 12 or d not 2, 4 or 8.");
+        for (int n = -3; n <= 16; n++) {
+            for (int d = -9; d <= 17; d++) {
+                boolean right = n >= 1 && n <= 12 && (d == 2 || d == 4 || d == 8);
+                CHECK.due("metre(" + n + ", " + d + ")", new TuneSetter().metre(n, d), right);
             }
+        }
+        for (int extreme : EXTREMES) {
+            CHECK.due("metre(" + extreme + ", 4)", new TuneSetter().metre(extreme, 4), false);
+            CHECK.due("metre(4, " + extreme + ")", new TuneSetter().metre(4, extreme), false);
         }
         TuneSetter kept = Check.typed("C6|D6|E6|");
         CHECK.due("metre(3, 4)", kept.metre(3, 4), true);
@@ -49,34 +52,43 @@ public final class SettingsTest {
         CHECK.readsWith(kept, "C6|D6|E6| in 3/4", 3);
     }
 
+    private static void fullBars() {
+        CHECK.sentence("metre: The metre.");
+        int[] bottoms = {2, 4, 8};
+        for (int d : bottoms) {
+            for (int n = 1; n <= 12; n++) {
+                fullBarIs(n, d);
+            }
+        }
+    }
+
     private static void fullBarIs(int n, int d) {
         String metre = n + "/" + d;
         String full = sixteenths(16 * n / d);
-        TuneSetter setter = Check.typed("z|" + full + "|z|");
-        CHECK.due("metre " + metre, setter.metre(n, d), true);
-        setter.unit(16);
-        CHECK.readsWith(setter, "a full bar of " + metre, 0);
-        setter.clear();
-        Check.typeInto(setter, "z|" + full + "z/24|z|");
-        CHECK.refusesWith(setter, "a tick more than " + metre, TuneSetter.BARS, 6 + full.length());
-        setter.clear();
-        Check.typeInto(setter, "z|" + sixteenths(16 * n / d - 1) + "z23/24|z|");
-        CHECK.due("a tick less than " + metre, setter.read(), TuneSetter.BARS);
+        String text = "z|" + full + "|z|";
+        CHECK.readsWith(Check.typedIn(n, d, 16, text), "a full bar of " + metre, 0);
+        text = "z|" + full + "z/24|z|";
+        CHECK.refusesWith(Check.typedIn(n, d, 16, text), "a tick more than " + metre, TuneSetter.BARS,
+            text.length() - 3);
+        text = "z|" + sixteenths(16 * n / d - 1) + "z23/24|z|";
+        CHECK.refusesWith(Check.typedIn(n, d, 16, text), "a tick less than " + metre, TuneSetter.BARS,
+            text.length() - 3);
     }
 
     /** Rests of so many sixteenths, in two of them where one would be too long. */
     private static String sixteenths(int count) {
-        if (count == 0) {
-            return "";
-        }
         return count > 64 ? "z64z" + (count - 64) : "z" + count;
     }
 
     private static void unit() {
-        int[] bad = {0, 1, 2, 3, 5, 7, 9, 15, 17, 32, -4, -8, Integer.MIN_VALUE, Integer.MAX_VALUE};
-        for (int u : bad) {
-            CHECK.due("unit(" + u + ")", new TuneSetter().unit(u), false);
+        CHECK.sentence("unit: False, changing nothing, when u is not 4, 8 or 16.");
+        for (int u = -17; u <= 33; u++) {
+            CHECK.due("unit(" + u + ")", new TuneSetter().unit(u), u == 4 || u == 8 || u == 16);
         }
+        for (int extreme : EXTREMES) {
+            CHECK.due("unit(" + extreme + ")", new TuneSetter().unit(extreme), false);
+        }
+        CHECK.sentence("unit: The unit.");
         int[] units = {4, 8, 16};
         for (int u : units) {
             TuneSetter setter = Check.typed("C|");
@@ -85,14 +97,17 @@ public final class SettingsTest {
             setter.read();
             CHECK.plays(setter, "C| with unit " + u, "0+" + 384 / u + ":60");
         }
-        CHECK.plays(CHECK.reads("C|", 1), "C|", "0+48:60");
     }
 
     private static void key() {
-        int[] bad = {-8, 8, 100, -100, Integer.MIN_VALUE, Integer.MAX_VALUE};
-        for (int k : bad) {
-            CHECK.due("key(" + k + ")", new TuneSetter().key(k), false);
+        CHECK.sentence("key: False, changing nothing, when k is not -7 .. 7.");
+        for (int k = -20; k <= 20; k++) {
+            CHECK.due("key(" + k + ")", new TuneSetter().key(k), k >= -7 && k <= 7);
         }
+        for (int extreme : EXTREMES) {
+            CHECK.due("key(" + extreme + ")", new TuneSetter().key(extreme), false);
+        }
+        CHECK.sentence("key: The key.");
         String[] scales = {
             "59 61 63 64 66 68 70", "59 61 63 65 66 68 70", "60 61 63 65 66 68 70", "60 61 63 65 67 68 70",
             "60 62 63 65 67 68 70", "60 62 63 65 67 69 70", "60 62 64 65 67 69 70", "60 62 64 65 67 69 71",
@@ -106,46 +121,58 @@ public final class SettingsTest {
             setter.read();
             CHECK.pitches(setter, "CDEFGAB| in key " + k, scales[k + 7]);
         }
-        CHECK.pitches("CDEFGAB|", scales[7]);
     }
 
     private static void laterChangesLeaveTheTune() {
+        CHECK.sentence("metre: (Metre, unit and key count when a tune is read; later changes leave it.)");
         TuneSetter setter = CHECK.reads("F8|", 1);
         setter.metre(2, 4);
         setter.unit(16);
         setter.key(1);
-        setter.clear();
         CHECK.plays(setter, "F8| behind changes", "0+384:65");
         CHECK.due("bars()", setter.bars(), 1);
         CHECK.due("width(0)", setter.width(0), 9);
-        Check.typeInto(setter, "F8|");
         CHECK.readsWith(setter, "F8| anew", 1);
         CHECK.plays(setter, "F8| anew", "0+192:66");
         setter.metre(1, 4);
         CHECK.refusesWith(setter, "F8| in 1/4", TuneSetter.BARS, 2);
     }
 
-    private static void type() {
-        TuneSetter setter = new TuneSetter();
-        int[] bad = {0, 9, 10, 31, 127, 128, 255, 256, 65535};
-        for (int c : bad) {
-            CHECK.due("type((char) " + c + ")", setter.type((char) c), false);
+    private static void codes() {
+        CHECK.sentence("type: False, changing nothing, when c is not 32 .. 126");
+        for (int from = 0; from < 65536; from += 64) {
+            TuneSetter setter = new TuneSetter();
+            int typed = 0;
+            for (int c = from; c < from + 64; c++) {
+                boolean right = c >= 32 && c <= 126;
+                CHECK.due("type((char) " + c + ")", setter.type((char) c), right);
+                typed += right ? 1 : 0;
+            }
+            CHECK.due("clear() behind 64 codes from " + from, setter.clear(), typed);
         }
-        CHECK.due("clear() behind bad ones", setter.clear(), 0);
-        for (int c = 32; c <= 126; c++) {
-            CHECK.due("type((char) " + c + ")", setter.type((char) c), true);
-        }
-        CHECK.due("clear() behind all", setter.clear(), 95);
-        String most = "C8|" + " ".repeat(117);
-        Check.typeInto(setter, most);
-        CHECK.due("the 121st", setter.type(' '), false);
-        CHECK.due("the 121st again", setter.type('x'), false);
-        CHECK.readsWith(setter, most, 1);
+    }
+
+    private static void mostCharacters() {
+        CHECK.sentence("type: A character comes behind the text. False, changing nothing, when there are 120.");
+        TuneSetter setter = Check.typed("C8|" + " ".repeat(116));
+        CHECK.due("type() as the 120th", setter.type(' '), true);
+        CHECK.due("type() as the 121st", setter.type('x'), false);
+        CHECK.due("type() as the 121st again", setter.type(' '), false);
+        CHECK.readsWith(setter, "C8| and 117 spaces", 1);
+        CHECK.due("type() behind read()", setter.type(' '), false);
         CHECK.due("clear() of 120", setter.clear(), 120);
-        CHECK.due("type behind clear()", setter.type(' '), true);
+        for (int i = 0; i < 120; i++) {
+            CHECK.due("type() behind clear()", setter.type("z8| ".charAt(i < 3 ? i : 3)), true);
+        }
+        CHECK.due("type() as the 121st behind clear()", setter.type(' '), false);
+        CHECK.readsWith(setter, "z8| and 117 spaces", 0);
     }
 
     private static void clear() {
+        CHECK.sentence("clear: The text is empty: how many characters it had.");
+        for (int size = 0; size <= 120; size++) {
+            CHECK.due("clear() of " + size, Check.typed(" ".repeat(size)).clear(), size);
+        }
         TuneSetter setter = CHECK.reads("C8|", 1);
         CHECK.due("clear()", setter.clear(), 3);
         CHECK.due("clear() again", setter.clear(), 0);
@@ -157,5 +184,7 @@ public final class SettingsTest {
         CHECK.refusesWith(setter, "D|x", TuneSetter.SYNTAX, 2);
         setter.clear();
         CHECK.due("place() stays", setter.place(), 2);
+        Check.typeInto(setter, "D|");
+        CHECK.readsWith(setter, "D| behind clear()", 1);
     }
 }
