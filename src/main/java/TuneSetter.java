@@ -721,9 +721,6 @@ public final class TuneSetter {
                 case LINE_BAR:
                     tune.setLine(Tune.PLAIN);
                     break;
-                case LINE_COLON:
-                    tune.setLine(Tune.CLOSES);
-                    break;
                 case LINE_DONE:
                     growLine(c);
                     break;
